@@ -148,6 +148,8 @@ public final class AccountsAndGroupsTest {
         check.fails(x, NO_SUCH, "nest(0, 5, 9)", () -> x.nest(0, 5, 9));
         check.fails(x, NO_SUCH, "nest(0, -1, 9)", () -> x.nest(0, -1, 9));
         check.fails(x, NO_SUCH, "nest(5, 5, 0)", () -> x.nest(5, 5, 0));
+        check.fails(x, NO_SUCH, "nest(0, 5, 3)", () -> x.nest(0, 5, 3));
+        check.fails(x, NO_SUCH, "nest(5, 0, 3)", () -> x.nest(5, 0, 3));
         check.fails(x, OUT_OF_RANGE, "nest on the day", () -> x.nest(0, 4, 3));
         check.fails(x, OUT_OF_RANGE, "nest(0, 4, 0)", () -> x.nest(0, 4, 0));
         check.fails(x, OUT_OF_RANGE, "nest(0, 4, -2)", () -> x.nest(0, 4, -2));

@@ -16,6 +16,7 @@ public final class FoldersAndSharesTest {
         rightOfShares();
         rightOfGroups();
         rightHandedDown();
+        rightOverLongChains();
         rightWrong();
         holders();
         check.end();
@@ -238,6 +239,26 @@ public final class FoldersAndSharesTest {
         dueRight(x, 2, 4, 1);
         x.setBroken(0, true);
         dueRight(x, 2, 4, 3);
+    }
+
+    private static void rightOverLongChains() {
+        FolderKeeper x = Make.with(3, 6);
+        for (int folder = 0; folder < 12; folder++) {
+            x.addFolder(0, folder - 1);
+        }
+        for (int group = 0; group < 5; group++) {
+            x.nest(group, group + 1, -1);
+        }
+        x.join(1, 0, -1);
+        x.shareWithGroup(0, 5, 1);
+        x.shareWith(0, 2, 2);
+        dueRight(x, 1, 1, 11);
+        dueRight(x, 2, 2, 11);
+        dueRight(x, 0, 3, 11);
+        x.setBroken(6, true);
+        dueRight(x, 1, 1, 5);
+        dueRight(x, 0, 2, 6);
+        dueRight(x, 0, 1, 11);
     }
 
     private static void rightWrong() {

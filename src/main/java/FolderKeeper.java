@@ -202,16 +202,7 @@ public final class FolderKeeper {
         if (!isActive(account)) {
             return NO_RIGHT;
         }
-        if (owners.at(folder) == account) {
-            return OWN;
-        }
-        int best = NO_RIGHT;
-        int giver = folder;
-        for (int step = 0; step < MAX_FOLDERS && giver != NONE; step++) {
-            best = Math.max(best, bestShareByWalking(account, giver));
-            giver = giverTo(giver);
-        }
-        return best;
+        return owners.at(folder) == account ? OWN : bestHandedByWalking(account, folder, 0);
     }
 
     public int holders(int folder, int right) throws IndexOutOfBoundsException, IllegalArgumentException {
@@ -497,6 +488,14 @@ public final class FolderKeeper {
         return best;
     }
 
+    private int bestHandedByWalking(int account, int folder, int depth) {
+        if (folder == NONE || depth >= MAX_FOLDERS) {
+            return NO_RIGHT;
+        }
+        int above = bestHandedByWalking(account, giverTo(folder), depth + 1);
+        return Math.max(above, bestShareByWalking(account, folder));
+    }
+
     private int bestShareByWalking(int account, int folder) {
         int best = accountShares.at(folder, account);
         for (int group = 0; group < groups; group++) {
@@ -570,11 +569,11 @@ public final class FolderKeeper {
     // ---- sets of numbers
 
     private static boolean contains(int set, int number) {
-        return number >= 0 && number < SET_SIZE && (set >>> number & 1) != 0;
+        return number >= 0 && number < SET_SIZE && ((set >>> number) & 1) != 0;
     }
 
     private static int with(int set, int number) {
-        return set | 1 << number;
+        return set | (1 << number);
     }
 
     private static int without(int set, int number) {
