@@ -606,7 +606,6 @@ public final class FolderKeeper {
 
     private static final class Grid {
         private static final int EMPTY = 0;
-        private static final int OUTSIDE = -1;
 
         private final int[] cells;
         private final int width;
@@ -617,12 +616,18 @@ public final class FolderKeeper {
         }
 
         int at(int line, int column) {
-            int index = placeOf(line, column);
+            if (column < 0 || column >= width) {
+                return EMPTY;
+            }
+            int index = line * width + column;
             return index >= 0 && index < cells.length ? cells[index] : EMPTY;
         }
 
         void put(int line, int column, int value) {
-            int index = placeOf(line, column);
+            if (column < 0 || column >= width) {
+                return;
+            }
+            int index = line * width + column;
             if (index >= 0 && index < cells.length) {
                 cells[index] = value;
             }
@@ -648,10 +653,6 @@ public final class FolderKeeper {
                 }
             }
             return cleared;
-        }
-
-        private int placeOf(int line, int column) {
-            return column >= 0 && column < width ? line * width + column : OUTSIDE;
         }
     }
 }
