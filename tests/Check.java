@@ -32,13 +32,6 @@ final class Check {
         }
     }
 
-    /** The call throws just this exception, and nothing that can be looked at is another afterwards. */
-    void fails(FolderKeeper keeper, Class<? extends RuntimeException> want, String told, Call call) {
-        String before = Look.at(keeper);
-        due("throws." + want.getSimpleName(), told, call);
-        due(before, "all that can be looked at after " + told, () -> Look.at(keeper));
-    }
-
     void end() {
         System.out.println(promise + ": " + (looked - wrong) + " of " + looked + " answers are as due");
         if (wrong != 0) {
