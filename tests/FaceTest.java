@@ -1,12 +1,15 @@
+import java.io.IOException;
 import java.lang.reflect.Constructor;
 import java.lang.reflect.Field;
 import java.lang.reflect.Method;
 import java.lang.reflect.Modifier;
+import java.nio.file.Files;
+import java.nio.file.Path;
 import java.util.ArrayList;
 import java.util.Collections;
 import java.util.List;
 
-/** The public face, and that there is nothing beside it. */
+/** The public face, that there is nothing beside it, and what the interface says ahead of its calls. */
 public final class FaceTest {
     private static final String NO_SUCH = " IndexOutOfBoundsException";
     private static final String OUT_OF_RANGE = " IllegalArgumentException";
@@ -14,11 +17,47 @@ public final class FaceTest {
     private static final String NOT_NOW = " IllegalStateException";
     private static final String NO_FIGURE = " ArithmeticException";
 
-    public static void main(String[] args) {
+    private static final Path PROGRAM = Path.of("src", "main", "java", "FolderKeeper.java");
+
+    public static void main(String[] args) throws IOException {
+        List<String> lines = Files.readAllLines(PROGRAM);
         Check check = new Check("the public face");
         check.due(Modifier.PUBLIC | Modifier.FINAL, "the class's modifiers", () -> FolderKeeper.class.getModifiers());
         check.due(dueFace(), "the members that are not private", () -> face());
+        check.due(dueHeadings(), "the calls under their headings", () -> headings(lines));
         check.end();
+    }
+
+    private static List<String> dueHeadings() {
+        List<String> due = new ArrayList<>(List.of(": FolderKeeper"));
+        addUnder(due, "---- accounts and groups", "addAccount setHeir addGroup join nest drop isIn memberships");
+        addUnder(due, "---- folders and shares",
+            "addFolder shareWith shareWithGroup setBroken owner right rightByWalking holders");
+        addUnder(due, "---- rooms", "addRoom reads readers");
+        addUnder(due, "---- leaving, holds and days", "keeper leave hold release pass day active");
+        addUnder(due, "---- figures", "openShare meanOwned");
+        return due;
+    }
+
+    private static void addUnder(List<String> due, String heading, String calls) {
+        for (String call : calls.split(" ")) {
+            due.add(heading + ": " + call);
+        }
+    }
+
+    /** The public members of the class in the order of its lines, each behind the heading above it. */
+    private static List<String> headings(List<String> lines) {
+        List<String> told = new ArrayList<>();
+        String heading = "";
+        for (String line : lines) {
+            int open = line.indexOf('(');
+            if (line.startsWith("    // ----")) {
+                heading = line.substring(line.indexOf("----"));
+            } else if (line.startsWith("    public ") && open >= 0) {
+                told.add(heading + ": " + line.substring(line.lastIndexOf(' ', open) + 1, open));
+            }
+        }
+        return told;
     }
 
     private static List<String> dueFace() {
